@@ -322,7 +322,7 @@ public final class MappingTexts {
 
         void copyFrom(Letters other) {
             clear();
-            addAll(other);
+            addPart(other, 0, other.length);
         }
 
         boolean holdsAt(int from, Letters part) {
@@ -676,7 +676,7 @@ public final class MappingTexts {
             if (holder >= 0 && holder < field) {
                 fields[field].holder = holder;
                 fields[field].depth = fields[holder].depth + 1;
-                fields[field].path.copyFrom(fields[holder].path);
+                fields[field].path.addPart(fields[holder].path, 0, fields[holder].path.length());
                 fields[field].path.add('.');
             }
         }
@@ -764,7 +764,7 @@ public final class MappingTexts {
 
         private void printPath(Letters out, int field) {
             if (field >= 0 && field < fieldCount) {
-                out.addAll(fields[field].path);
+                out.addPart(fields[field].path, 0, fields[field].path.length());
             }
         }
     }
@@ -1001,7 +1001,7 @@ public final class MappingTexts {
 
         private int step(int token) {
             switch (state) {
-                case ITEM: return stepItem(token);
+                case ITEM: return isFieldName(token) ? stepFieldName(token) : stepItem(token);
                 case COLON: return expect(token, ':', KIND);
                 case KIND: return stepKind(token);
                 case BEHIND_KIND: return stepBehindKind(token);
@@ -1030,23 +1030,21 @@ public final class MappingTexts {
             return FINE;
         }
 
+        private boolean isFieldName(int token) {
+            return tokens.kindAt(token) == Tokens.NAME && !tokens.isWord(token, "rule") && !tokens.isWord(token, "limit");
+        }
+
+        /** What else may stand where a field may: the end of a holder, and in none of them a rule or a limit. */
         private int stepItem(int token) {
-            if (tokens.kindAt(token) == '}' && depth > 0) {
-                depth--;
-                state = SEMICOLON;
-                return FINE;
+            if (depth > 0) {
+                int wrong = expect(token, '}', SEMICOLON);
+                depth -= wrong == FINE ? 1 : 0;
+                return wrong;
             }
             if (tokens.kindAt(token) != Tokens.NAME) {
                 return MISPLACED;
             }
-            boolean isRule = tokens.isWord(token, "rule");
-            if (!isRule && !tokens.isWord(token, "limit")) {
-                return stepFieldName(token);
-            }
-            if (depth > 0) {
-                return MISPLACED;
-            }
-            return isRule ? stepRuleWord() : stepLimitWord(token);
+            return tokens.isWord(token, "rule") ? stepRuleWord() : stepLimitWord(token);
         }
 
         private int stepFieldName(int token) {
