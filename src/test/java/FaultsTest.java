@@ -1,18 +1,11 @@
 /** Promises 3 and 4: each fault, its place, and which of several is told. */
 public final class FaultsTest {
     private static void fault(String text, int fault, int place) {
-        MappingTexts x = new MappingTexts();
-        Checks.due("read of " + text, Checks.read(x, text), -10 - fault);
-        Checks.due("place of " + text, x.place(), place);
-        Checks.due("versions behind " + text, x.told(0, 0), 0);
-        Checks.due("tape behind " + text, x.told(0, 1), 0);
+        Checks.fault(text, fault, place);
     }
 
     private static void fine(String text) {
-        MappingTexts x = new MappingTexts();
-        Checks.due("read of " + text, Checks.read(x, text), 0);
-        Checks.due("place of " + text, x.place(), Checks.NO);
-        Checks.due("tape behind " + text, x.told(0, 1), 0);
+        Checks.fine(text);
     }
 
     public static void main(String[] args) {

@@ -31,11 +31,7 @@ public final class PromisesTest {
     }
 
     private static MappingTexts with(String... texts) {
-        MappingTexts x = new MappingTexts();
-        for (int i = 0; i < texts.length; i++) {
-            Checks.due("read of " + texts[i], Checks.read(x, texts[i]), i);
-        }
-        return x;
+        return Checks.with(texts);
     }
 
     private static void newObject() {
