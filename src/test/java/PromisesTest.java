@@ -101,8 +101,11 @@ public final class PromisesTest {
             text.append("abcdefghij").append(i).append(":text(stored,norms,copy=z0,by=q").append(i).append(");");
         }
         MappingTexts x = with(text.toString());
-        Checks.same("print of a wide one", Checks.print(x, 0), text.toString());
-        Checks.due("reached", x.field(0, 39, 9), 2);
+        Checks.due("print of a wide one", x.print(0), text.length());
+        Checks.due("taken back", x.take(), text.length());
+        Checks.due("read", x.read(), 1);
+        Checks.due("the same", x.differences(0, 1), 0);
+        Checks.due("reached", x.field(1, 39, 9), 2);
     }
 
     private static void place() {

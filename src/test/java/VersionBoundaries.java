@@ -250,7 +250,6 @@ final class VersionBoundaries {
 
     private static void standsBehind() {
         stand("and stands behind all FIELDS of its HOLDER (of the text itself);");
-        MappingTexts x = Checks.with("a:word;o:object{p:object{q:word;};r:object{s:word;};};e:object;z:word(copy=a);rule *:word;");
         String[][] cases = {
             {"o.y", "6", "a:word;o:object{p:object{q:word;};r:object{s:word;};y:word;};e:object;z:word(copy=a);rule *:word;"},
             {"o.p.y", "4", "a:word;o:object{p:object{q:word;y:word;};r:object{s:word;};};e:object;z:word(copy=a);rule *:word;"},
@@ -258,10 +257,10 @@ final class VersionBoundaries {
             {"e.y", "7", "a:word;o:object{p:object{q:word;};r:object{s:word;};};e:object{y:word;};z:word(copy=a);rule *:word;"},
             {"y", "8", "a:word;o:object{p:object{q:word;};r:object{s:word;};};e:object;z:word(copy=a);y:word;rule *:word;"}};
         for (String[] one : cases) {
+            MappingTexts x = Checks.with("a:word;o:object{p:object{q:word;};r:object{s:word;};};e:object;z:word(copy=a);rule *:word;");
             Checks.due("grow by " + one[0], Checks.grow(x, one[0], 0, 0), 1);
             Checks.due("its number, " + one[0], Checks.find(x, one[0], 1), Integer.parseInt(one[1]));
             Checks.same("printed, " + one[0], Checks.print(x, 1), one[2]);
-            x.drop();
         }
         MappingTexts first = Checks.with("o:object{a:word;};z:word;rule *:word;", "o:object;z:word;rule *:word;");
         Checks.due("in the first field", Checks.grow(first, "o.y", 0, 0), 2);
@@ -318,6 +317,13 @@ final class VersionBoundaries {
         Checks.same("0 to 1", Checks.differences(y, 0, 1), "2/2/-2 1/-2/1 4/1/2 3/3/0 2/0/-2 1/-2/3");
         MappingTexts z = Checks.with("abcdefghijkl:word;abcdefghijk:word;abcdefghij:word;", "");
         Checks.same("what another one begins with", Checks.differences(z, 0, 1), "2/2/-2 2/1/-2 2/0/-2");
+        // The same where a longer path was kept before, and with the longest that there are.
+        MappingTexts again = Checks.with("", "zzz:word;zzy:word;");
+        again.drop();
+        Checks.due("other paths in their place", Checks.read(again, "z:word;za:word;"), 1);
+        Checks.same("what another one begins with", Checks.differences(again, 0, 1), "1/-2/0 1/-2/1");
+        String deep = Checks.times("abcdefghijkl:object{", 4) + "abcdefghijkl:word;" + Checks.times("};", 4);
+        Checks.due("the longest paths", Checks.with(deep, deep).differences(0, 1), 0);
     }
 
     private static void came() {
